@@ -18,7 +18,7 @@ public final class PromiseTest {
         always();
         with();
         orderAndLimits();
-        noBoardIsCrowded();
+        densestBoardIsNotCrowded();
         objectsAreApart();
         System.out.println(wrong == 0 ? "all answers are as due" : wrong + " answers are not as due");
         if (wrong != 0) {
@@ -352,7 +352,7 @@ public final class PromiseTest {
     }
 
     /** 7 islands in R rows and C columns make 14 - R - C gaps, and R * C is 7 or more: never over 8 gaps. */
-    private static void noBoardIsCrowded() {
+    private static void densestBoardIsNotCrowded() {
         BridgeBoard b = board(0, 0, 2, 0, 1, 3, 0, 2, 3, 0, 3, 2, 1, 0, 2, 1, 1, 3, 1, 2, 2);
         due("P5: densest, 2 by 4", b.gaps(), 8);
         due("P7: exactly 8 gaps is not crowded", b.with(8, 0), -1);
