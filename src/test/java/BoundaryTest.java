@@ -132,6 +132,8 @@ public final class BoundaryTest {
         bridgesAreNoneOneOrTwo();
         sumsAreTheNumbers();
         crossingGapsAreNotBothUsed();
+        crossingsInEveryInnerCell();
+        farLinesHaveNoCellInCommon();
         islandsReachEachOther();
         noIslandAtAll();
         leastIsTheFirstInOrder();
@@ -288,6 +290,33 @@ public final class BoundaryTest {
         due("island in the crossing", both.place(2, 2, 4), 7);
         due("island in the crossing", both.gaps(), 8);
         due("island in the crossing", both.solutions(), 1);
+    }
+
+    private static void crossingsInEveryInnerCell() {
+        about("Terms: of two gaps that have a cell in common, at least one has 0 bridges: wherever that cell is");
+        for (int row = 1; row <= 4; row++) {
+            for (int column = 1; column <= 4; column++) {
+                // A ring whose gaps 2 and 3 go through the whole board and meet in the cell.
+                BridgeBoard b = board(0, 0, 2, 0, column, 2, row, 0, 2, row, 5, 2, 5, column, 2, 5, 5, 2);
+                due("both would be needed", b.solutions(), 0);
+                due("without gap 2", b.place(0, column, 1), 6);
+                due("without gap 2", b.place(5, column, 1), 6);
+                due("without gap 2", b.solutions(), 1);
+                dueAtEachGap("without gap 2, always", b::always, 1, 1, 0, 1, 1, 1);
+            }
+        }
+    }
+
+    private static void farLinesHaveNoCellInCommon() {
+        about("Terms: of two gaps that have a cell in common, at least one has 0 bridges: side by side they have none");
+        for (int top = 0; top < 5; top++) {
+            for (int bottom = top + 1; bottom < 6; bottom++) {
+                BridgeBoard rows = board(top, 0, 3, top, 5, 3, bottom, 0, 3, bottom, 5, 3);
+                due("rows " + top + " and " + bottom, rows.solutions(), 2);
+                BridgeBoard columns = board(0, top, 3, 0, bottom, 3, 5, top, 3, 5, bottom, 3);
+                due("columns " + top + " and " + bottom, columns.solutions(), 2);
+            }
+        }
     }
 
     private static void islandsReachEachOther() {
